@@ -214,9 +214,9 @@ public final class RepairScan {
                 newline = b == NEWLINE ? at : newline;
                 stringEnd = b == ')' ? at + 1 : stringEnd;
                 if (b <= LAST_BLANK) {
-                    setPlace(at, starts[at + 1], at + 1, NOTHING);
+                    setPlace(at, startFrom(at + 1), at + 1, NOTHING);
                 } else if (b == '%') {
-                    setPlace(at, starts[newline], newline, NOTHING);
+                    setPlace(at, startFrom(newline), newline, NOTHING);
                 } else {
                     setPlace(at, at, b == '(' ? stringEnd : tokenEnd(at, b), OTHER);
                     numbers[at] = numberOf(at);
@@ -235,17 +235,18 @@ public final class RepairScan {
         private int tokenEnd(int at, int b) {
             int following = byteAt(at + 1);
             if (b == '/' || isRegular(b)) {
-                return isRegular(following) ? ends[at + 1] : at + 1;
+                return isRegular(following) ? endAt(at + 1) : at + 1;
             }
             return (b == '<' || b == '>') && following == b ? at + 2 : at + 1;
         }
 
         private int numberOf(int at) {
             int value = 0;
-            if (ends[at] - at > MOST_DIGITS) {
+            int end = endAt(at);
+            if (end - at > MOST_DIGITS) {
                 return -1;
             }
-            for (int i = at; i < ends[at]; i++) {
+            for (int i = at; i < end; i++) {
                 int digit = byteAt(i) - '0';
                 if (digit < 0 || digit > 9) {
                     return -1;
@@ -259,7 +260,7 @@ public final class RepairScan {
             if (isRegular(b)) {
                 return isText(at, "endobj") ? ENDOBJ : isText(at, "trailer") ? TRAILER : WORD;
             }
-            boolean doubled = ends[at] == at + 2;
+            boolean doubled = endAt(at) == at + 2;
             switch (b) {
                 case '/':
                     return NAME;
@@ -277,15 +278,16 @@ public final class RepairScan {
         }
 
         private int kindOfNumber(int at) {
+            int number = numberAt(at);
             int second = next(at);
-            if (numbers[second] < 0) {
+            if (numberAt(second) < 0) {
                 return NUMBER;
             }
             int third = next(second);
             if (isText(third, "R")) {
                 return REFERENCE;
             }
-            boolean fits = numbers[at] >= 1 && numbers[at] <= MOST_OBJECT;
+            boolean fits = number >= 1 && number <= MOST_OBJECT;
             return fits && isText(third, "obj") ? HEAD : NUMBER;
         }
 
@@ -328,7 +330,7 @@ public final class RepairScan {
         }
 
         int next(int at) {
-            return at >= 0 && at <= size ? starts[ends[at]] : size;
+            return startFrom(endAt(at));
         }
 
         /** Behind the third token of a head or a reference. */

@@ -132,6 +132,8 @@ public final class RepairScanPromises {
 
     private static void heads() {
         due("1 .. 60", count("%P\n0 0 obj endobj 1 0 obj endobj 60 0 obj endobj 61 0 obj endobj"), 2);
+        due("61 is no head within an object", mends(scanned("%P\n1 0 obj 61 0 obj endobj")), "6@0");
+        due("0 is no head within an object", mends(scanned("%P\n1 0 obj 0 0 obj endobj")), "6@0");
         due("six digits", scanned("%P\n000007 999999 obj endobj").found(7, 0), 3);
         due("seven digits are no number", count("%P\n0000007 0 obj endobj 7 0000000 obj endobj"), 0);
         due("no sign", count("%P\n+1 0 obj endobj 1 -0 obj endobj"), 0);
@@ -221,6 +223,7 @@ public final class RepairScanPromises {
         due("5 objects by number", mends(scanned("%P\n5 0 obj<</A 9 0 R>>endobj 4 0 obj<</A 9 0 R>>endobj")),
                 "5@29 5@3 6@0");
         due("5 a reference to what is cut", mends(scanned("%P\n1 0 obj<</A 2 0 R>>endobj 2 0 obj")), "10@29 5@3 6@0");
+        due("5 of object 60", mends(scanned("%P\n60 0 obj<</A 9 0 R>>endobj")), "5@3 6@0");
         due("5 a reference above 60", mends(scanned("%P\n1 0 obj<</A 61 0 R/B 1 0 R>>endobj")), "5@3 6@0");
     }
 
@@ -252,6 +255,11 @@ public final class RepairScanPromises {
         due("6 without pages, mend 7", mends(scanned("%P\n5 0 obj<</Type/Catalog>>endobj")), "6@0 7@3");
         due("6 Pages of another kind", scanned("%P\n" + "5 0 obj<</Type/Catalog/Pages 2 0 R>>endobj\n"
                 + "6 0 obj<</Type/Catalog/Pages 3 0 R>>endobj\n" + PAGES + PAGE_3).catalogue(), 5);
+        due("6 object 60", scanned("%P\n60 0 obj<</Type/Catalog>>endobj").catalogue(), 60);
+        due("6 Pages that is no reference", scanned("%P\n4 0 obj<</Type/Catalog/Pages 1>>endobj " + kids(1, "[]")
+                + "5 0 obj<</Type/Catalog>>endobj").catalogue(), 5);
+        due("6 no Pages at all", scanned("%P\n4 0 obj<</Type/Catalog>>endobj " + kids(1, "[]")
+                + "3 0 obj<</Type/Catalog/Pages 7 0 R>>endobj").catalogue(), 3);
         due("6 a Root of another kind", mends(scanned("%P\n5 0 obj<<>>endobj trailer<</Root 5 0 R>>")), "6@0");
         due("6 a Root that is not there", mends(scanned("%P\n5 0 obj<<>>endobj trailer<</Root 6 0 R>>")), "6@0");
         due("6 a Root above 60", mends(scanned("%P\n5 0 obj<<>>endobj trailer<</Root 999999 0 R>>")), "6@0");
@@ -274,6 +282,10 @@ public final class RepairScanPromises {
         RepairScan lost = scanned(start + kids(2, "[4 0 R]"));
         due("8 one that is lost", pageList(lost), "3 4");
         due("8 told", mends(lost), "8@0");
+        RepairScan childless = scanned("%P\n5 0 obj<</A 3 0 R>>endobj 2 0 obj<</Type/Pages>>endobj\n" + CATALOGUE + ROOT
+                + PAGE_3);
+        due("8 no Kids", mends(childless), "8@0");
+        due("8 object 60", pageList(scanned("%P\n60 0 obj<</Type/Page>>endobj")), "60");
         due("8 no catalogue", pageList(scanned("%P\n" + PAGE_4 + PAGE_3)), "3 4");
         due("8 no catalogue, told", mends(scanned("%P\n" + PAGE_4 + PAGE_3)), "6@0 8@0");
         due("8 Pages is a page", mends(scanned("%P\n1 0 obj<</Type/Catalog/Pages 3 0 R>>endobj\n" + PAGE_3 + ROOT)), "8@0");
@@ -314,6 +326,9 @@ public final class RepairScanPromises {
         due("10 a Root above 0", tail("trailer<</Root 1 0 R>> trailer<</Root 0 0 R>>"), "1 0");
         due("10 a Size of 0", tail("trailer<</Size 5>> trailer<</Size 0>>"), "0 0");
         due("10 each by itself", tail("trailer<</Root 1 0 R>> trailer<</Size 6>>"), "1 6");
+        due("10 each by itself, turned", tail("trailer<</Size 6>> trailer<</Root 1 0 R>>"), "1 6");
+        due("10 a Root that is a number", tail("trailer<</Root 5>>"), "0 0");
+        due("10 a Root behind that is a name", tail("trailer<</Root 3 0 R>> trailer<</Root/A>>"), "3 0");
         due("10 equal names", tail("trailer<</Root 1 0 R/Root 2 0 R/Size 5/Size(x)>>"), "2 0");
         due("10 no dictionary", tail("trailer x <</Root 1 0 R>>"), "0 0");
         due("10 no trailer", tail("<</Root 1 0 R>> trailers<</Root 1 0 R>>"), "0 0");
@@ -368,6 +383,11 @@ public final class RepairScanPromises {
         due("a Length too great", data("<</Length 999999>>stream\nx\nendstream"), "x");
         due("the last Length counts", mends(scanned("%P\n1 0 obj<</Length 9/Length 1>>stream\nxendstream endobj")), "6@0");
         due("mend 3", mends(scanned("%P\n1 0 obj<</Length 2>>stream\nx\ny\nendstream endobj")), "3@30 6@0");
+        due("mend 3 at a byte 10 alone", data("<</Length 1>>stream\nx\nyendstream"), "x\ny");
+        due("mend 3 at another byte", data("<</Length 1>>stream\nxyendstream"), "xy");
+        due("mend 3 told there", mends(scanned("%P\n1 0 obj<</Length 1>>stream\nxyendstream endobj")), "3@30 6@0");
+        due("endobj at once, with a byte 10", mends(scanned("%P\n1 0 obj<</Length 1>>stream\nx\nendstreamendobj")), "6@0");
+        due("endobj at once, by the word", mends(scanned("%P\n1 0 obj<<>>stream\nx\nendstreamendobj")), "3@21 6@0");
         due("whatever is behind endstream", mends(scanned("%P\n1 0 obj<</Length 1>>stream\nxendstreamendobj")), "6@0");
         RepairScan x = scanned("%P\n1 0 obj<</Length 1>>stream\nabc\n");
         due("no end: mend 3, mend 2, no mend 1", mends(x), "3@30 2@30 6@0");

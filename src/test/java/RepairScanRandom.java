@@ -43,6 +43,9 @@ public final class RepairScanRandom {
         for (int i = 0; i < 300 && wrong < 20; i++) {
             compare(new RepairScan(), pieces(random, 200));
         }
+        for (int i = 0; i < 2000 && wrong < 20; i++) {
+            callsByChance(random);
+        }
         System.out.println("RepairScanRandom: " + looked + " answers compared, " + wrong + " wrong");
         if (wrong != 0 || looked == 0) {
             System.exit(1);
@@ -166,6 +169,105 @@ public final class RepairScanRandom {
             same(file, "written " + i, scan.written(i), anew.charAt(i));
         }
         same(file, "mended(-1) behind again", scan.mended(-1, 0), plain.mends.size());
+    }
+
+    /** One object, 512 calls, any arguments; what is due is told as a text, exceptions too. */
+    private static void callsByChance(Random random) {
+        RepairScan scan = new RepairScan();
+        StringBuilder waiting = new StringBuilder();
+        PlainRepair plain = null;
+        String anew = "";
+        int calls = 0;
+        while (calls < 512 && wrong == 0) {
+            if (random.nextInt(12) == 0) {
+                String piece = PIECES[random.nextInt(PIECES.length)];
+                for (byte b : piece.getBytes(StandardCharsets.ISO_8859_1)) {
+                    scan.add(b);
+                    calls++;
+                }
+                waiting.append(piece);
+            }
+            int what = random.nextInt(40);
+            calls++;
+            if (what == 0) {
+                String due = waiting.length() == 0 ? "IllegalStateException" : null;
+                String got = answer(scan, 0, 0, 0);
+                if (due == null) {
+                    plain = new PlainRepair(waiting.toString());
+                    waiting.setLength(0);
+                    due = "" + plain.things.size();
+                }
+                sameText("scan", got, due);
+            } else if (what == 1) {
+                anew = plain == null ? "" : plain.writtenAnew();
+                sameText("again", answer(scan, 1, 0, 0), plain == null ? "0" : "" + new PlainRepair(anew).mends.size());
+            } else {
+                int a = argument(random, what);
+                int b = argument(random, what + 1);
+                int call = 2 + what % 11;
+                sameText("call " + call + " of " + a + ", " + b, answer(scan, call, a, b), due(plain, anew, call, a, b));
+            }
+        }
+    }
+
+    private static int argument(Random random, int kind) {
+        return kind % 7 == 0 ? random.nextInt() : kind % 3 == 0 ? random.nextInt(70) - 3 : random.nextInt(9) - 2;
+    }
+
+    private static String answer(RepairScan scan, int call, int a, int b) {
+        try {
+            return switch (call) {
+                case 0 -> "" + scan.scan();
+                case 1 -> "" + scan.again();
+                case 2 -> "" + scan.found(a, b);
+                case 3 -> "" + scan.mended(a, b);
+                case 4 -> "" + scan.catalogue();
+                case 5 -> "" + scan.pages();
+                case 6 -> "" + scan.page(a);
+                case 7 -> "" + scan.cut();
+                case 8 -> "" + scan.trailer(a);
+                case 9 -> "" + scan.stream(a, b);
+                case 10 -> "" + scan.whole(a);
+                case 11 -> "" + scan.twice(a);
+                default -> "" + scan.written(a);
+            };
+        } catch (RuntimeException e) {
+            return e.getClass().getSimpleName();
+        }
+    }
+
+    private static String due(PlainRepair plainOrNull, String anew, int call, int a, int b) {
+        String none = "NoSuchElementException";
+        String beyond = "IndexOutOfBoundsException";
+        // An empty text finds nothing, but it tells mends: these are taken away.
+        PlainRepair plain = plainOrNull == null ? new PlainRepair("") : plainOrNull;
+        List<int[]> mends = plainOrNull == null ? List.of() : plain.mends;
+        PlainRepair.Thing it = plain.things.get(a);
+        return switch (call) {
+            case 2 -> it == null ? none : b < 0 || b > 4 ? beyond : "" + new int[] {it.head, it.text, it.end,
+                it.dictionary.kind(), it.dictionary.references().size()}[b];
+            case 3 -> a == -1 ? "" + mends.size()
+                    : a < 0 || a >= mends.size() || b < 0 || b > 1 ? beyond : "" + mends.get(a)[b];
+            case 4 -> "" + plain.catalogue;
+            case 5 -> "" + plain.pages.size();
+            case 6 -> a < 0 || a >= plain.pages.size() ? beyond : "" + plain.pages.get(a);
+            case 7 -> "" + plain.cut;
+            case 8 -> a == 0 ? "" + plain.root : a == 1 ? "" + plain.size : beyond;
+            case 9 -> it == null || it.data == null ? none : b == -1 ? "" + it.data.length()
+                    : b < 0 || b >= it.data.length() ? beyond : "" + (int) it.data.charAt(b);
+            case 10 -> it == null ? none : "" + it.whole;
+            case 11 -> a == -1 ? "" + plain.twice.size() : a < 0 || a >= plain.twice.size() ? beyond
+                    : "" + plain.twice.get(a);
+            default -> a == -1 ? "" + anew.length() : a < 0 || a >= anew.length() ? beyond : "" + (int) anew.charAt(a);
+        };
+    }
+
+    private static void sameText(String label, String got, String due) {
+        looked++;
+        if (!got.equals(due)) {
+            wrong++;
+            System.out.println(label + " answered " + got + ", due is " + due);
+        }
     }
 
     private static void same(String file, String label, long got, long want) {
