@@ -1,8 +1,7 @@
-import java.nio.charset.StandardCharsets;
 import java.util.NoSuchElementException;
 
 /** The promises 1 to 15 one by one: ordinary inputs, the edges that the document names, and wrong inputs. */
-public final class RepairScanPromises {
+public final class RepairScanPromises extends Checks {
     private static final String CATALOGUE = "1 0 obj<</Type/Catalog/Pages 2 0 R>>endobj\n";
     private static final String PAGES = "2 0 obj<</Type/Pages/Kids[3 0 R 4 0 R]>>endobj\n";
     private static final String PAGE_3 = "3 0 obj<</Type/Page>>endobj\n";
@@ -10,43 +9,11 @@ public final class RepairScanPromises {
     private static final String ROOT = "trailer<</Root 1 0 R/Size 5>>\n";
     private static final String GOOD = "%P\n" + CATALOGUE + PAGES + PAGE_3 + PAGE_4 + ROOT;
 
-    private static int wrong = 0;
-    private static int right = 0;
-
-    private interface Call {
-        long answer();
-    }
-
     private RepairScanPromises() {
     }
 
     public static void main(String[] args) {
-        newObject();
-        add();
-        scan();
-        tokens();
-        heads();
-        found();
-        dictionaries();
-        references();
-        mended();
-        equalNumbers();
-        catalogue();
-        pages();
-        cut();
-        trailer();
-        stream();
-        streamEnds();
-        whole();
-        twice();
-        again();
-        written();
-        writtenStreams();
-        throwingChangesNothing();
-        System.out.println("RepairScanPromises: " + right + " passed, " + wrong + " failed");
-        if (wrong != 0 || right == 0) {
-            System.exit(1);
-        }
+        runTests(RepairScanPromises.class);
     }
 
     // ---- the promises
@@ -523,42 +490,10 @@ public final class RepairScanPromises {
         due("a scan of none changes nothing", look(x), now);
     }
 
-    // ---- what the tests are made of
-
-    private static void put(RepairScan x, String text) {
-        for (byte b : text.getBytes(StandardCharsets.ISO_8859_1)) {
-            x.add(b);
-        }
-    }
-
-    private static RepairScan scanned(String text) {
-        RepairScan x = new RepairScan();
-        put(x, text);
-        x.scan();
-        return x;
-    }
-
-    private static int count(String text) {
-        RepairScan x = new RepairScan();
-        put(x, text);
-        return x.scan();
-    }
-
-    private static long kind(String inside) {
-        return scanned("%P\n1 0 obj<<" + inside + ">>endobj").found(1, 3);
-    }
-
-    private static long refs(String text) {
-        return scanned("%P\n1 0 obj " + text + " endobj").found(1, 4);
-    }
+    // ---- files
 
     private static String kids(int number, String value) {
         return number + " 0 obj<</Type/Pages/Kids " + value + ">>endobj\n";
-    }
-
-    private static String tail(String text) {
-        RepairScan x = scanned("%P\n" + text);
-        return x.trailer(0) + " " + x.trailer(1);
     }
 
     private static String allObjects() {
@@ -576,80 +511,5 @@ public final class RepairScanPromises {
             out.append(i).append(" 0 obj<</Type/Pages/Kids ").append(i + 1).append(" 0 R>>endobj ");
         }
         return out.append("60 0 obj<</Type/Page>>endobj").toString();
-    }
-
-    private static String data(String object) {
-        RepairScan x = scanned("%P\n1 0 obj " + object + " endobj");
-        StringBuilder out = new StringBuilder();
-        try {
-            for (int i = 0; i < x.stream(1, -1); i++) {
-                out.append((char) x.stream(1, i));
-            }
-        } catch (NoSuchElementException e) {
-            return "none";
-        }
-        return out.toString();
-    }
-
-    private static String mends(RepairScan x) {
-        StringBuilder out = new StringBuilder();
-        for (int i = 0; i < x.mended(-1, 0); i++) {
-            out.append(i == 0 ? "" : " ").append(x.mended(i, 0)).append('@').append(x.mended(i, 1));
-        }
-        return out.toString();
-    }
-
-    private static String pageList(RepairScan x) {
-        StringBuilder out = new StringBuilder();
-        for (int i = 0; i < x.pages(); i++) {
-            out.append(i == 0 ? "" : " ").append(x.page(i));
-        }
-        return out.toString();
-    }
-
-    private static String anew(RepairScan x) {
-        StringBuilder out = new StringBuilder();
-        for (int i = 0; i < x.written(-1); i++) {
-            out.append((char) x.written(i));
-        }
-        return out.toString();
-    }
-
-    private static String anew(String text) {
-        RepairScan x = scanned(text);
-        x.again();
-        return anew(x);
-    }
-
-    private static String look(RepairScan x) {
-        StringBuilder out = new StringBuilder(mends(x)).append('|').append(pageList(x)).append('|').append(anew(x));
-        out.append('|').append(x.cut()).append(x.catalogue()).append(x.trailer(0)).append(x.trailer(1)).append(x.twice(-1));
-        for (int number = 1; number <= 60; number++) {
-            for (int what = 0; what < 5; what++) {
-                try {
-                    out.append(' ').append(x.found(number, what));
-                } catch (NoSuchElementException e) {
-                    out.append('-');
-                }
-            }
-        }
-        return out.toString();
-    }
-
-    private static void due(String label, Object got, Object want) {
-        if (String.valueOf(got).equals(String.valueOf(want))) {
-            right++;
-        } else {
-            wrong++;
-            System.out.println(label + ": answered " + got + ", due is " + want);
-        }
-    }
-
-    private static void fails(String label, Class<?> exception, Call call) {
-        try {
-            due(label, "the answer " + call.answer(), exception.getName());
-        } catch (RuntimeException e) {
-            due(label, e.getClass().getName(), exception.getName());
-        }
     }
 }
