@@ -37,6 +37,13 @@ abstract class Checks {
         }
     }
 
+    /** Of one test alone, so that a broken class can be tried against it. */
+    static int wrongIn(Class<?> tests, String name) throws NoSuchMethodException {
+        int before = wrong;
+        runTest(tests.getDeclaredMethod(name));
+        return wrong - before;
+    }
+
     private static void runTest(Method method) {
         test = method.getName();
         int before = right + wrong;
@@ -146,6 +153,9 @@ abstract class Checks {
     static String dataOf(RepairScan x, int object) {
         StringBuilder out = new StringBuilder();
         try {
+            if (x.stream(object, -1) < 0) {
+                return "fewer than none";
+            }
             for (int i = 0; i < x.stream(object, -1); i++) {
                 out.append((char) x.stream(object, i));
             }

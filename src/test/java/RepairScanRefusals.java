@@ -16,6 +16,7 @@ public final class RepairScanRefusals extends Checks {
             + "endobj 3 0 obj<</Type/Page>>endobj 4 0 obj endobj 4 0 obj<</A 9 0 R>> 4 0 obj<</Type/Page>>endobj"
             + " 5 0 obj<</Length 9>>stream\nabc\nendstream endobj 6 0 obj<</Length 0>>stream\nendstream endobj"
             + " 61 0 obj endobj trailer<</Root 1 0 R/Size 7>> 8 0 obj<<";
+    private static final String SECOND = "%P\n1 0 obj<</Length 1>>stream\nxendstream endobj";
     private static final String WAITING = "%P\n7 0 obj<</A 9 0 R>>stream\nxy";
 
     private interface Asking {
@@ -36,10 +37,10 @@ public final class RepairScanRefusals extends Checks {
                 x.scan();
             }
             if (this == SCANNED_TWICE) {
-                put(x, "%P\n1 0 obj<</Length 1>>stream\nxendstream endobj");
+                put(x, SECOND);
                 x.scan();
             }
-            if (ordinal() >= WRITTEN.ordinal() && this != SCANNED_TWICE) {
+            if (isWritten()) {
                 x.again();
             }
             if (this == BYTES_WAIT || this == WRITTEN_BYTES_WAIT) {
@@ -49,6 +50,20 @@ public final class RepairScanRefusals extends Checks {
                 put(x, WAITING + "z".repeat(1500 - WAITING.length()));
             }
             return x;
+        }
+
+        /** What was scanned last; what is refused is known by it, and not by asking the class that is tested. */
+        PlainRepair known() {
+            String file = this == SCANNED_TWICE ? SECOND : ordinal() >= SCANNED.ordinal() ? RICH : "x";
+            return new PlainRepair(file);
+        }
+
+        boolean isScanned() {
+            return ordinal() >= NOTHING_FOUND.ordinal();
+        }
+
+        boolean isWritten() {
+            return ordinal() >= WRITTEN.ordinal() && this != SCANNED_TWICE;
         }
 
         boolean isFull() {
@@ -128,7 +143,7 @@ public final class RepairScanRefusals extends Checks {
 
     private static void mended_refusesIBesideTheMends() {
         for (State state : State.values()) {
-            int count = state.make().mended(-1, 0);
+            int count = mendsOf(state);
             List<Refused> all = new ArrayList<>();
             for (int i : behind(count)) {
                 for (int what : new int[] {0, 1, 2, -1}) {
@@ -144,7 +159,7 @@ public final class RepairScanRefusals extends Checks {
 
     private static void mended_refusesWhatIsNotAsked() {
         for (State state : State.values()) {
-            int count = state.make().mended(-1, 0);
+            int count = mendsOf(state);
             List<Refused> all = new ArrayList<>();
             for (int what : beside(0, 1)) {
                 for (int i = 0; i < count; i += Math.max(1, count - 1)) {
@@ -158,7 +173,7 @@ public final class RepairScanRefusals extends Checks {
 
     private static void page_refusesIBesideThePages() {
         for (State state : State.values()) {
-            int count = state.make().pages();
+            int count = state.known().pages.size();
             List<Refused> all = new ArrayList<>();
             for (int i : beside(0, count - 1)) {
                 all.add(new Refused("page(" + i + ")", BEYOND, x -> x.page(i)));
@@ -194,10 +209,9 @@ public final class RepairScanRefusals extends Checks {
 
     private static void stream_refusesAnObjectWithoutOne() {
         for (State state : State.values()) {
-            RepairScan probe = state.make();
             List<Refused> all = new ArrayList<>();
             for (int object : there(state)) {
-                if (dataOf(probe, object).equals("none")) {
+                if (dataIn(state, object) == null) {
                     all.add(new Refused("stream(" + object + ", -1)", NONE, x -> x.stream(object, -1)));
                     all.add(new Refused("stream(" + object + ", 0)", NONE, x -> x.stream(object, 0)));
                 } else {
@@ -210,13 +224,12 @@ public final class RepairScanRefusals extends Checks {
 
     private static void stream_refusesIBesideTheData() {
         for (State state : State.values()) {
-            RepairScan probe = state.make();
             List<Refused> all = new ArrayList<>();
             for (int object : there(state)) {
-                if (dataOf(probe, object).equals("none")) {
+                if (dataIn(state, object) == null) {
                     continue;
                 }
-                int count = probe.stream(object, -1);
+                int count = dataIn(state, object).length();
                 for (int i : behind(count)) {
                     all.add(new Refused("stream(" + object + ", " + i + ")", BEYOND, x -> x.stream(object, i)));
                 }
@@ -230,11 +243,10 @@ public final class RepairScanRefusals extends Checks {
 
     private static void stream_namesNoSuchElementFirst() {
         for (State state : State.values()) {
-            RepairScan probe = state.make();
             List<Refused> all = new ArrayList<>();
             for (int object = 0; object <= 61; object++) {
                 int number = object;
-                boolean hasNone = !isThere(probe, object) || dataOf(probe, object).equals("none");
+                boolean hasNone = dataIn(state, object) == null;
                 for (int i : new int[] {-2, 9999, Integer.MIN_VALUE, Integer.MAX_VALUE}) {
                     if (hasNone && (object < 10 || object > 59)) {
                         all.add(new Refused("stream(" + number + ", " + i + ")", NONE, x -> x.stream(number, i)));
@@ -260,7 +272,7 @@ public final class RepairScanRefusals extends Checks {
 
     private static void twice_refusesIBesideTheNumbers() {
         for (State state : State.values()) {
-            int count = state.make().twice(-1);
+            int count = state.known().twice.size();
             List<Refused> all = new ArrayList<>();
             for (int i : behind(count)) {
                 all.add(new Refused("twice(" + i + ")", BEYOND, x -> x.twice(i)));
@@ -274,7 +286,7 @@ public final class RepairScanRefusals extends Checks {
 
     private static void written_refusesIBesideTheBytes() {
         for (State state : State.values()) {
-            int count = state.make().written(-1);
+            int count = state.isWritten() ? state.known().writtenAnew().length() : 0;
             List<Refused> all = new ArrayList<>();
             for (int i : behind(count)) {
                 all.add(new Refused("written(" + i + ")", BEYOND, x -> x.written(i)));
@@ -294,6 +306,14 @@ public final class RepairScanRefusals extends Checks {
         due("cut", rich.cut(), 8);
         due("data", dataOf(rich, 5) + "," + dataOf(rich, 6) + "," + dataOf(rich, 4), "abc,,none");
         due("mends", rich.mended(-1, 0) > 4, true);
+        for (State state : State.values()) {
+            RepairScan x = state.make();
+            for (int object = 1; object <= 60; object++) {
+                due(state + " object " + object, isThere(x, object), there(state).contains(object));
+            }
+            due(state + " how many", x.mended(-1, 0) + " " + x.pages() + " " + x.twice(-1), mendsOf(state) + " "
+                    + state.known().pages.size() + " " + state.known().twice.size());
+        }
         due("written", State.WRITTEN.make().written(-1) > 100, true);
         due("scanned twice", there(State.SCANNED_TWICE), List.of(1));
     }
@@ -321,14 +341,16 @@ public final class RepairScanRefusals extends Checks {
     // ---- what is refused
 
     private static List<Integer> there(State state) {
-        RepairScan probe = state.make();
-        List<Integer> all = new ArrayList<>();
-        for (int object = 1; object <= 60; object++) {
-            if (isThere(probe, object)) {
-                all.add(object);
-            }
-        }
-        return all;
+        return state.isScanned() ? new ArrayList<>(state.known().things.keySet()) : List.of();
+    }
+
+    private static int mendsOf(State state) {
+        return state.isScanned() ? state.known().mends.size() : 0;
+    }
+
+    /** Null when there is no such object, or it has no stream. */
+    private static String dataIn(State state, int object) {
+        return there(state).contains(object) ? state.known().things.get(object).data : null;
     }
 
     /** Numbers that no object can have, and those that none has here, the one that was cut among them. */

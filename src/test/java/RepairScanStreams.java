@@ -134,6 +134,7 @@ public final class RepairScanStreams extends Checks {
         due("in a comment", streamOf("", "%endstream\n"), "% (mend 3)");
         due("in a longer word", streamOf("", "xendstreamy"), "x (mend 3)");
         due("in half another one", streamOf("", "endstrendstream"), "endstr (mend 3)");
+        told("as the last bytes of all", "%P\n1 0 obj<<>>stream\n~xendstream~", "3@a 1@b 6@0");
         due("endobj and heads are data", streamOf("", "endobj 2 0 obj trailer endstream"),
                 "endobj 2 0 obj trailer  (mend 3)");
     }

@@ -178,6 +178,7 @@ public final class RepairScanTerms extends Checks {
         due("six digits", count("%P\n1 999999 obj endobj"), 1);
         due("seven digits", count("%P\n1 1000000 obj endobj"), 0);
         due("none", count("%P\n1 obj endobj"), 0);
+        due("none, and a word behind obj", count("%P\n1 obj x endobj"), 0);
         due("a word", count("%P\n1 a obj endobj"), 0);
     }
 
@@ -435,6 +436,15 @@ public final class RepairScanTerms extends Checks {
         for (String value : new String[] {"]", ">", "<", ")", "{", "}", "x", "(x)", "/B", "1234567"}) {
             due(value + " is passed with its name", kind("/A " + value + "/Type/Page"), 3);
             due(value + " is no kind", kind("/Type " + value), 0);
+        }
+    }
+
+    /** Were it passed like a name before >>, the earlier pair would count. */
+    private static void value_anyOtherSingleTokenIsTheValueOfItsName() {
+        for (String value : new String[] {"]", ">", "<", ")", "{", "}", "x", "(x)", "/B", "5", "1 0 R", "[]", "<<>>"}) {
+            due(value + " behind an equal name", kind("/Type/Page/Type " + value + " "), 0);
+            due(value + " behind an equal name, more behind it", kind("/Type/Page/Type " + value + "/A 1"), 0);
+            due(value + " is no name of a pair", kind("/A " + value + "/Type/Page"), 3);
         }
     }
 

@@ -82,6 +82,14 @@ public final class RepairScanWhole extends Checks {
         due("a later one need not be an object", scanned("%P\n" + CATALOGUE + ROOT + "trailer<</Root 9 0 R>>").trailer(0), 9);
     }
 
+    private static void trailer_ofEqualNamesTheLastCounts() {
+        due("both fit", tail("trailer<</Root 1 0 R/Root 2 0 R/Size 5/Size 6>>"), "2 6");
+        due("the last does not fit", tail("trailer<</Root 1 0 R/Root 2/Size 5/Size 6 0 R>>"), "0 0");
+        due("the last Root is 0", tail("trailer<</Root 1 0 R/Root 0 0 R>>"), "0 0");
+        due("then an earlier trailer's stay", tail("trailer<</Root 3 0 R/Size 7>>trailer<</Root 1 0 R/Root 2/Size 5/Size(6)>>"),
+                "3 7");
+    }
+
     private static void trailer_withinAnObjectEndsThatAndCounts() {
         due("within the text", tail("1 0 obj x trailer<</Size 5>>"), "0 5");
         due("within the dictionary", tail("1 0 obj<</A[trailer<</Size 5>>"), "0 5");
@@ -237,6 +245,8 @@ public final class RepairScanWhole extends Checks {
         due("all in its value", pagesOf("[[4 0 R]<</A[3 0 R]>>]", page(3) + page(4)), "4 3");
         due("of equal names the last", pagesOf("[3 0 R 4 0 R]/Kids[4 0 R 3 0 R]", page(3) + page(4)), "4 3");
         due("other values are none", pagesOf("[3 0 R]/Kid[4 0 R]", page(3) + page(4)), "3 4 (mend 8)");
+        due("nor do they hide Kids", pagesOf("[4 0 R 3 0 R]/Kid[3 0 R 4 0 R]/Kidss[3 0 R 4 0 R]/kids[3 0 R 4 0 R]",
+                page(3) + page(4)), "4 3");
         due("of another kind or nothing", pagesOf("[1 0 R 9 0 R 0 0 R 61 0 R 3 0 R]", page(3)), "3");
     }
 
