@@ -18,6 +18,7 @@ public final class RepairScanRandom {
         "1 0 R ", "9 0 R ", "3 0 R]", "0 0 R ", "999999 0 R ", "1234567 0 R ", "1 ", " 5", " 0 ", "R", "obj ", "/", "/A ",
         "/B(", "/C 1 0 R", "/D 8 0 R ", "\377\200", "null ", "1 0", " 0 obj", "endob", "<< /Length 5 >> stream\nhello\nendstream endobj ",
         "1 0 obj<</Type/Catalog/Pages 2 0 R>>endobj ", "2 0 obj<</Type/Pages/Kids[3 0 R 4 0 R]>>endobj ",
+        "/Pagess 3 0 R", "/Kid[3 0 R]", "/Kidss 4 0 R", "/Lengths 5", "/Types/Page", "/Roots 2 0 R", "/Sizes 3",
         "3 0 obj<</Type/Page>>endobj ", "4 0 obj << /Type /Page /F 9 0 R >> endobj\n",
         "5 0 obj << /Length 4 /X 8 0 R >> stream\ndata\nendstream\nendobj\n", "trailer << /Root 1 0 R /Size 6 >>\n",
     };
@@ -43,6 +44,9 @@ public final class RepairScanRandom {
         for (int i = 0; i < 300 && wrong < 20; i++) {
             compare(new RepairScan(), pieces(random, 200));
         }
+        for (int i = 0; i < 20000 && wrong < 20; i++) {
+            compare(used, signs(random));
+        }
         for (int i = 0; i < 2000 && wrong < 20; i++) {
             callsByChance(random);
         }
@@ -62,6 +66,20 @@ public final class RepairScanRandom {
             }
         }
         return out.length() > 1500 ? out.substring(0, 1500) : out.toString();
+    }
+
+    /** Single bytes, mostly those that mean something, behind a head that makes them matter. */
+    private static String signs(Random random) {
+        String some = "<<>>[]()/%{}R 0 1 9\n\0\377";
+        StringBuilder out = new StringBuilder(random.nextBoolean() ? "1 0 obj<<" : "trailer<<");
+        int count = random.nextInt(60);
+        for (int i = 0; i < count; i++) {
+            out.append(random.nextInt(20) == 0 ? (char) random.nextInt(256) : some.charAt(random.nextInt(some.length())));
+            if (random.nextInt(12) == 0) {
+                out.append(PIECES[random.nextInt(PIECES.length)]);
+            }
+        }
+        return out.append(random.nextBoolean() ? "endobj" : ">>stream\nx\nendstream").toString();
     }
 
     private static String brokenGoodFile(Random random) {

@@ -204,6 +204,8 @@ public final class RepairScanWhole extends Checks {
                 + catalogue(4, "/Pages 9 0 R")).catalogue(), 4);
         due("in a row", guess("/Pages[2 0 R]", pages(2, "[]")), 7);
         due("the last of equal names", guess("/Pages 2 0 R/Pages 9 0 R", pages(2, "[]")), 7);
+        due("of that very name", guess("/Page 2 0 R/Pagess 2 0 R/pages 2 0 R", pages(2, "[]")), 7);
+        due("others do not hide it", guess("/Pages 2 0 R/Page 9 0 R/Pagess 9 0 R/pages 9 0 R", pages(2, "[]")), 5);
         due("the other one is told then", mends(scanned("%P\n" + other)), "6@0 7@3");
     }
 
